@@ -7,6 +7,7 @@ public final class LawsTest {
         noRoom();
         faults();
         clausesPiecesBrackets();
+        wholeTapes();
         words();
         sums();
         broken();
@@ -114,6 +115,11 @@ public final class LawsTest {
         faultAt("ranks vertexpart", 6);
         faultAt("ranks vertex part", 13);
         faultAt("ranks 2vertex", 7);
+        faultAt("barsz", 0);
+        faultAt("zbars", 0);
+        faultAt("ranks z", 6);
+        faultAt("ranks verte", 6);
+        faultAt("ranks vertexx", 6);
         faultAt("ranks 2*vertex%3if key<1or part>2and mood=0", -1);
     }
 
@@ -138,6 +144,34 @@ public final class LawsTest {
         faultAt("bars if (((([[[[[1]]]]]=1))))", 16);
         faultAt("bars if ((((((((1=[1]))))))))", 18);
         faultAt("bars if " + Checks.repeated("not", 97, " ") + " 1=1", -1);
+    }
+
+    /** Texts that fill the tape, with as many tokens and as many steps as can be. */
+    private static void wholeTapes() {
+        faultAt(" ".repeat(400), 400);
+        faultAt("bars" + " ".repeat(396), -1);
+        faultAt(";".repeat(400), 0);
+        faultAt("bars" + ";".repeat(396), 5);
+        faultAt("ranks " + "7".repeat(394), 6);
+        faultAt("ranks " + "0".repeat(394), -1);
+        faultAt("a".repeat(400), 0);
+        faultAt("ranks 1" + "+1".repeat(49) + " ".repeat(294) + "+", 400);
+        String tests = "bars if " + Checks.repeated("not(not(1>2))", 23, "or ");
+        faultAt(tests, -1);
+        due("tests that are not so", barred(tests), 0);
+        due("the last is so", barred(tests + " or not(1>2)"), 1);
+        due("all are so", barred("bars if " + Checks.repeated("not(1>2)", 25, "and ")), 1);
+        due("the last is not so", barred("bars if " + Checks.repeated("not(1>2)", 24, "and ") + "and not(1<2)"), 0);
+        due("deep sums", ranked(new PeeledHash(), "ranks " + "1+2*[".repeat(8) + "3" + "]".repeat(8) + "%97", 0),
+                deepSum());
+    }
+
+    private static int deepSum() {
+        int value = 3;
+        for (int i = 0; i < 7; i++) {
+            value = 1 + 2 * value;
+        }
+        return Math.min(99, 1 + 2 * value % 97);
     }
 
     private static int ranked(PeeledHash x, String law, int vertex) {

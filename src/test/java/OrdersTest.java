@@ -52,6 +52,8 @@ public final class OrdersTest {
         faultAt("add degree keys", 11);
         faultAt("add number 1000", 11);
         faultAt("add number 999", -1);
+        faultAt("add degree 0 + 5", -1);
+        faultAt("add number 0 + 5", -1);
         faultAt("add vertex", 4);
         faultAt("add mood", 4);
         faultAt("add key", 4);
@@ -104,6 +106,10 @@ public final class OrdersTest {
         x = Checks.with(0, 1, 2, 3);
         due("degree, number", Checks.orders(x, "build;add 100 + degree 11 * 10 + number 3"), 2);
         due("key(123, 0)", x.key(123, 0), 1);
+        x = Checks.with(0, 1, 2, 3);
+        String many = Checks.repeated("degree 0", 20, "+") + "+" + Checks.repeated("number 2", 20, "+");
+        due("many of them", Checks.orders(x, "build;add 100 + " + many), 2);
+        due("key(160, 0)", x.key(160, 0), 1);
         x = Checks.with(0, 1, 2, 3);
         due("degree changes", Checks.orders(x, "take 2;add 100 + degree 2"), 2);
         due("key(101, 0)", x.key(101, 0), 1);

@@ -127,6 +127,17 @@ public final class PeelingTest {
         x.side(20);
         x.seed(99);
         due("leastSide() asks neither side nor seed", x.leastSide(), 4);
+        // Keys of which at side 3 seed 0 alone, seed 15 alone, seed 16 alone is good among seeds 0 to 16.
+        due("leastSide() by seed 0", Checks.with(106, 129, 382, 412, 484, 725, 762).leastSide(), 3);
+        due("leastSide() by seed 15", Checks.with(126, 213, 322, 409, 477, 521).leastSide(), 3);
+        due("leastSide() not by seed 16", Checks.with(133, 151, 199, 262, 417, 421).leastSide(), 4);
+        // Keys that were searched for, so that none of the sides will do.
+        PeeledHash y = Checks.with(48, 50, 117, 182, 220, 255, 257, 327, 467, 489, 498, 502, 537, 570, 586, 615, 639,
+                686, 731, 753, 782, 807, 817, 847, 852, 885, 920, 954, 977, 984);
+        due("count(0)", y.count(0), 30);
+        due("leastSide() by none", y.leastSide(), -1);
+        y.take(920);
+        due("leastSide() by 20", y.leastSide(), 20);
         due("count(1)", x.count(1), 20);
     }
 }

@@ -106,6 +106,8 @@ public final class TableTest {
         due("found(3, 0)", x.found(3, 0), 5);
         due("found(3, 2)", x.found(3, 2), 3);
         due("twin(2): it was there", x.twin(2), -1);
+        due("twin(0): it was there", x.twin(0), -1);
+        due("twin(3): it was there", x.twin(3), -1);
         due("twin(4)", x.twin(4), 3);
     }
 
