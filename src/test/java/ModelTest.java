@@ -16,7 +16,7 @@ public final class ModelTest {
     }
 
     public static void main(String[] args) {
-        int runs = args.length > 0 ? Integer.parseInt(args[0]) : 150;
+        int runs = args.length > 0 ? Integer.parseInt(args[0]) : 250;
         long first = args.length > 1 ? Long.parseLong(args[1]) : 1;
         int wrong = 0;
         for (int run = 0; run < runs; run++) {
