@@ -85,6 +85,9 @@ public final class LawsTest {
         faultAt("bars if [1 = 1]", 11);
         faultAt("bars if 1 = 1 and", 17);
         faultAt("bars if 1 = 1 or or", 17);
+        faultAt("bars if 1 = 1 or", 16);
+        faultAt("ranks 1 *", 9);
+        faultAt("ranks 1 % ;bars", 10);
         faultAt("bars if and 1 = 1", 8);
         faultAt("bars if 1 not = 1", 10);
         faultAt("bars if not not not 1 = 1", -1);
