@@ -316,10 +316,8 @@ public final class PeeledHash {
     }
 
     public int undo() {
-        if (past.size == 0) {
-            return refuse(CANNOT);
-        }
-        return accept(past.takeBack(now.state));
+        int kind = past.takeBack(now.state);
+        return kind < 0 ? refuse(kind) : accept(kind);
     }
 
     public int core(int seed) {
@@ -520,22 +518,24 @@ public final class PeeledHash {
     }
 
     public int image(int k) {
-        if (k < 0 || k >= IMAGES) {
+        Whole image = imageNumbered(k);
+        if (image == null) {
             return refuse(BAD_NUMBER);
         }
-        images[k].copyFrom(now);
-        images[k].kept = true;
+        image.copyFrom(now);
+        image.kept = true;
         return accept(0);
     }
 
     public int back(int k) {
-        if (k < 0 || k >= IMAGES) {
+        Whole image = imageNumbered(k);
+        if (image == null) {
             return refuse(BAD_NUMBER);
         }
-        if (!images[k].kept) {
+        if (!image.kept) {
             return refuse(NO_SUCH);
         }
-        now.copyFrom(images[k]);
+        now.copyFrom(image);
         past.clear();
         return accept(0);
     }
@@ -597,6 +597,10 @@ public final class PeeledHash {
     private int accept(int answer) {
         status = 0;
         return answer;
+    }
+
+    private Whole imageNumbered(int k) {
+        return k >= 0 && k < IMAGES ? images[k] : null;
     }
 
     private Text lawNumbered(int law) {
@@ -1001,7 +1005,10 @@ public final class PeeledHash {
         }
 
         void draft(State state) {
-            states[slot(size)].copyFrom(state);
+            State next = states[slot(size)];
+            if (state != null && next != null) {
+                next.copyFrom(state);
+            }
         }
 
         void keep(int kind) {
@@ -1014,11 +1021,12 @@ public final class PeeledHash {
         }
 
         int takeBack(State into) {
-            if (size == 0) {
+            State latest = size > 0 ? states[slot(size - 1)] : null;
+            if (latest == null) {
                 return CANNOT;
             }
             size--;
-            into.copyFrom(states[slot(size)]);
+            into.copyFrom(latest);
             return kinds[slot(size)];
         }
 
