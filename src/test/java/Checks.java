@@ -1,17 +1,43 @@
+import java.io.IOException;
 import java.nio.charset.StandardCharsets;
+import java.nio.file.Files;
+import java.nio.file.Path;
 
-/** What the tests share: answers that are due, and texts put on the tape. */
+/** What the tests share: answers that are due, sentences of the document, and texts put on the tape. */
 final class Checks {
+    private static final Path DOCUMENT = Path.of("../shared/DOC.md");
     private int wrong = 0;
+    private String document;
+    private String sentence = "";
 
     void due(String call, long got, long want) {
         if (got != want) {
             wrong++;
-            System.out.println(call + " answered " + got + ", due is " + want);
+            System.out.println((sentence.isEmpty() ? "" : "[" + sentence + "] ") + call + " answered " + got + ", due is "
+                    + want);
+        }
+    }
+
+    /** The sentence that the checks behind it are for. It must stand in the document word for word, if that is here. */
+    void says(String words) {
+        sentence = "";
+        if (document == null) {
+            document = documentOnOneLine();
+        }
+        due("the document says: " + words, document.isEmpty() || document.contains(words) ? 1 : 0, 1);
+        sentence = words;
+    }
+
+    private static String documentOnOneLine() {
+        try {
+            return Files.exists(DOCUMENT) ? Files.readString(DOCUMENT).replaceAll("\\s+", " ") : "";
+        } catch (IOException unreadable) {
+            return "";
         }
     }
 
     void finish(String name) {
+        sentence = "";
         System.out.println(name + ": " + (wrong == 0 ? "all answers are as due" : wrong + " answers are not as due"));
         if (wrong != 0) {
             System.exit(1);
