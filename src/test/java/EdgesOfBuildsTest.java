@@ -7,13 +7,16 @@ public final class EdgesOfBuildsTest {
     public static void main(String[] args) {
         changes();
         alikeRanks();
+        askedAhead();
         cores();
         buildsWithoutKeys();
         buildsGoRound();
         buildsThatCanNotBe();
         signsAndSteps();
+        signsOfAll();
         time();
         anyKeyByTheTable();
+        ownVertices();
         packed();
         goodSeeds();
         leastSide();
@@ -81,6 +84,38 @@ public final class EdgesOfBuildsTest {
             due("peeled(" + i + ", 0) by \"" + law + "\"", x.peeled(i, 0), leaving[i][0]);
             due("peeled(" + i + ", 1) by \"" + law + "\"", x.peeled(i, 1), leaving[i][1]);
         }
+    }
+
+    private static int signs(PeeledHash x) {
+        return x.table(64) * 65536 + x.table(65) * 256 + x.table(66);
+    }
+
+    /** A table of keys 0 to 9 at side 4, by that law, built from that seed at that time; seed 7 is the one that is good. */
+    private static int tableBy(String law, int seed, int time) {
+        PeeledHash x = Checks.with(0, 1, 2, 3, 4, 5, 6, 7, 8, 9);
+        x.terms(0, time);
+        if (seed > 0) {
+            x.seed(seed);
+        }
+        Checks.law(x, law);
+        x.force(0);
+        due("build()", x.build(), 7 - seed);
+        return signs(x);
+    }
+
+    private static void askedAhead() {
+        CHECKS.says("PEELED by a SEED: all VERTICES RANK (asked as all is ahead of it, seed, degree by that SEED)");
+        int plain = tableBy("bars", 0, 0);
+        int other = tableBy("ranks 50 - vertex", 0, 0);
+        due("the law matters", plain == other ? 1 : 0, 0);
+        due("seed: the one that is tried", tableBy("ranks 50 - vertex if seed = 7", 0, 0), other);
+        due("seed: not the one ahead", tableBy("ranks 50 - vertex if seed = 0", 0, 0), plain);
+        due("seed: not the one before it", tableBy("ranks 50 - vertex if seed = 6", 0, 0), plain);
+        due("degree: by the seed that is tried", tableBy("ranks 9 * degree + 30 - vertex", 0, 0),
+                tableBy("ranks 9 * degree + 30 - vertex", 7, 0));
+        due("time: ahead of it", tableBy("ranks 50 - vertex if time = 998", 0, 998), other);
+        due("time: not behind it", tableBy("ranks 50 - vertex if time = 999", 0, 998), plain);
+        due("time: 999 stays", tableBy("ranks 50 - vertex if time = 999", 0, 999), other);
     }
 
     private static void cores() {
@@ -209,6 +244,27 @@ public final class EdgesOfBuildsTest {
         }
     }
 
+    private static void signsOfAll() {
+        CHECKS.says("then from the KEY that left last to the one that left first: the SIGN of its FREE VERTEX is that 0, 1 or 2 with"
+                + " which the SIGNS of its three VERTICES together, modulo 3, are the PART of the FREE one");
+        for (int side = 5; side <= 20; side += 5) {
+            PeeledHash x = atSide(side, 10, 20, 30, 40, 50, 60, 70);
+            due("build() can be", x.build() >= 0 ? 1 : 0, 1);
+            for (int i = 0; i < 7; i++) {
+                int key = x.peeled(i, 0);
+                int free = x.peeled(i, 1);
+                int together = 0;
+                for (int j = 0; j < 3; j++) {
+                    together += x.table(4 + x.key(key, 2 + j));
+                }
+                due("the free vertex of " + key, together % 3, free / side);
+                due("its sign is not 3", x.table(4 + free) <= 2 ? 1 : 0, 1);
+                due("it is the own vertex of " + key, x.found(key, 0), free);
+            }
+            due("all others are 3: table(3)", x.table(3), 7);
+        }
+    }
+
     private static void time() {
         CHECKS.says("The TIME is one more (999 stays).");
         PeeledHash x = new PeeledHash();
@@ -264,7 +320,32 @@ public final class EdgesOfBuildsTest {
         due("found(5, 2), there since", none.found(5, 2), 0);
     }
 
+    private static void ownVertices() {
+        CHECKS.says("of its three by the TABLE's SEED and SIDE that in the PART which their SIGNS together, modulo 3, are; a NUMBER: how"
+                + " many VERTICES below that have a SIGN that is not 3;");
+        for (int first = 0; first < 1000; first += 50) {
+            PeeledHash x = atSide(5, 10, 20, 30, 40, 50, 60, 70);
+            x.build();
+            int[] signs = new int[15];
+            for (int v = 0; v < 15; v++) {
+                signs[v] = x.table(4 + v);
+            }
+            for (int key = first; key < first + 50; key++) {
+                int[] vertices = {x.key(key, 2), x.key(key, 3), x.key(key, 4)};
+                int own = vertices[(signs[vertices[0]] + signs[vertices[1]] + signs[vertices[2]]) % 3];
+                int below = 0;
+                for (int v = 0; v < own; v++) {
+                    below += signs[v] == 3 ? 0 : 1;
+                }
+                due("found(" + key + ", 0)", x.found(key, 0), own);
+                due("found(" + key + ", 1)", x.found(key, 1), below);
+            }
+        }
+    }
+
     private static void packed() {
+        CHECKS.says("PACKED: BYTE i has the SIGNS of VERTICES 4 times i and the three behind, the first one once, the second one 4 times,"
+                + " the third one 16 times, the last one 64 times");
         CHECKS.says("(3, where there is no VERTEX); there are as many BYTES as have a VERTEX of the TABLE's SIDE.");
         for (int side = 2; side <= 20; side++) {
             PeeledHash x = atSide(side, 5, 900);

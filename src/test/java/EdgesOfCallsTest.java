@@ -8,6 +8,8 @@ public final class EdgesOfCallsTest {
         newObject();
         keyAndVertex();
         thereAndTerms();
+        ceilingAndTwin();
+        leastSideAndCompare();
         feedAndEnd();
         rowAndBlanks();
         law();
@@ -25,6 +27,7 @@ public final class EdgesOfCallsTest {
         seenAndForget();
         canBeAndAsk();
         few();
+        years();
         drawn();
         imageAndBack();
         count();
@@ -37,6 +40,8 @@ public final class EdgesOfCallsTest {
     }
 
     private static void newObject() {
+        CHECKS.says("The constants: `NONE = -1`: There is none.");
+        due("NONE", PeeledHash.NONE, -1);
         CHECKS.says("`PeeledHash()`: No keys, no table.");
         PeeledHash x = new PeeledHash();
         due("count(0)", x.count(0), 0);
@@ -102,6 +107,59 @@ public final class EdgesOfCallsTest {
         due("terms(1, 1): it was so", x.terms(1, 1), 1);
         due("status()", x.status(), 0);
         due("count(5)", x.count(5), 0);
+    }
+
+    private static void ceilingAndTwin() {
+        CHECKS.says("`int ceiling(int key)`: CEILING. NONE.");
+        PeeledHash x = Checks.with(0, 1, 2, 3);
+        due("ceiling(3)", x.ceiling(3), 3);
+        due("ceiling(4)", x.ceiling(4), -1);
+        due("ceiling(-1)", x.ceiling(-1), 0);
+        CHECKS.says("A STRANGER's TWIN. NONE (it was THERE; there is none; no TABLE).");
+        due("no table: twin(4)", x.twin(4), -1);
+        x.build();
+        due("twin(4)", x.twin(4), 3);
+        due("it was there: twin(3)", x.twin(3), -1);
+        due("there is none: twin(5)", x.twin(5), -1);
+        int[] wrong = {MIN, -1, 1000, MAX};
+        for (int key : wrong) {
+            due("twin(" + key + ")", x.twin(key), -1);
+        }
+        due("count(7)", x.count(7), 0);
+    }
+
+    private static void leastSideAndCompare() {
+        CHECKS.says("The LEAST SIDE. NONE (by none).");
+        due("without keys", new PeeledHash().leastSide(), 2);
+        PeeledHash y = Checks.with(48, 50, 117, 182, 220, 255, 257, 327, 467, 489, 498, 502, 537, 570, 586, 615, 639,
+                686, 731, 753, 782, 807, 817, 847, 852, 885, 920, 954, 977, 984);
+        due("by none", y.leastSide(), -1);
+        y.take(920);
+        due("by 20", y.leastSide(), 20);
+        CHECKS.says("COMPARED. NONE (no such LAW, VERTEX).");
+        PeeledHash x = new PeeledHash();
+        for (int i = 0; i < 6; i++) {
+            Checks.law(x, "ranks 10 + " + i);
+        }
+        int[] noLaws = {MIN, -2, 6, MAX};
+        int[] noVertices = {MIN, -1, 12, 60, MAX};
+        for (int law : noLaws) {
+            due("compare(" + law + ", 0)", x.compare(law, 0), -1);
+        }
+        for (int vertex : noVertices) {
+            due("compare(0, " + vertex + ")", x.compare(0, vertex), -1);
+            due("compare(-1, " + vertex + ")", x.compare(-1, vertex), -1);
+        }
+        due("compare(-1, 11)", x.compare(-1, 11), 0);
+        due("compare(0, 0)", x.compare(0, 0), 10);
+        due("compare(5, 11)", x.compare(5, 11), 15);
+        x.side(20);
+        due("compare(5, 59)", x.compare(5, 59), 15);
+        due("compare(5, 60)", x.compare(5, 60), -1);
+        x.side(2);
+        due("compare(5, 5)", x.compare(5, 5), 15);
+        due("compare(5, 6)", x.compare(5, 6), -1);
+        due("none is refused: count(7), count(8)", x.count(7) + x.count(8), 0);
     }
 
     private static void feedAndEnd() {
@@ -469,6 +527,11 @@ public final class EdgesOfCallsTest {
         for (int what : wrong) {
             due("found(0, " + what + ")", x.found(0, what), -1);
         }
+        CHECKS.says("Of the TABLE SIDE (what 0), SEED (1), how many KEYS (2), how many SIGNS that are not 3 (3),");
+        int[] first = {4, 0, 4, 4};
+        for (int what = 0; what < 4; what++) {
+            due("table(" + what + ")", x.table(what), first[what]);
+        }
         CHECKS.says("the SIGN of VERTEX v (4 + v), BYTE i PACKED (64 + i, i 0 .. 14). NONE (no TABLE, no such VERTEX, BYTE).");
         x.side(20);
         x.build();
@@ -562,6 +625,20 @@ public final class EdgesOfCallsTest {
         due("none is refused: count(7)", x.count(7), 0);
     }
 
+    private static void years() {
+        CHECKS.says("YEARS, kept as the latest: how many KEYS are THERE behind them. -1.");
+        PeeledHash x = Checks.with(0, 1, 2, 3);
+        int[][] wrong = {{-1, 1}, {1000001, 1}, {0, 0}, {0, 61}, {-1, 0}, {MIN, MIN}, {MAX, MAX}};
+        for (int[] call : wrong) {
+            due("years(" + call[0] + ", " + call[1] + ")", x.years(call[0], call[1]), -1);
+        }
+        due("count(7)", x.count(7), wrong.length);
+        due("years(0, 1)", x.years(0, 1), 5);
+        due("status()", x.status(), 0);
+        due("years(1000000, 60)", x.years(1000000, 60) >= 0 ? 1 : 0, 1);
+        due("count(0)", x.count(0), 4);
+    }
+
     private static void drawn() {
         CHECKS.says("Behind the latest YEARS the NUMBER of KEY k 0 .. 39 by the TABLE. NONE (no TABLE; ahead of any).");
         PeeledHash x = Checks.with(0, 1, 2, 3);
@@ -605,6 +682,26 @@ public final class EdgesOfCallsTest {
     }
 
     private static void count() {
+        CHECKS.says("0 KEYS that are THERE, 1 SIDE, 2 SEED, 3 SEEN, 4 LAWS, 5 how many can be undone, 6 bytes of the TAPE");
+        PeeledHash most = new PeeledHash();
+        most.terms(0, 999);
+        most.terms(1, 10);
+        most.terms(2, 9);
+        most.side(20);
+        most.seed(255);
+        for (int key = 0; key < 30; key++) {
+            most.add(key);
+        }
+        for (int i = 0; i < 6; i++) {
+            most.seen(0, 0);
+            Checks.law(most, "bars");
+        }
+        most.force(5);
+        Checks.tape(most, " ".repeat(400));
+        int[] full = {30, 20, 255, 6, 6, 16, 400, 0, 0, 0, 0, 0, 5, 999, 10, 9};
+        for (int what = 0; what < full.length; what++) {
+            due("at the most: count(" + what + ")", most.count(what), full[what]);
+        }
         CHECKS.says("13 .. 15 TERMS 0 .. 2. NONE for others.");
         PeeledHash x = new PeeledHash();
         int[] wrong = {MIN, -1, 16, MAX};

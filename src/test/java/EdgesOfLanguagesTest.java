@@ -6,6 +6,7 @@ public final class EdgesOfLanguagesTest {
     public static void main(String[] args) {
         numberOfLaws();
         lawInForce();
+        words();
         wordsOfLaws();
         holding();
         ranks();
@@ -60,6 +61,56 @@ public final class EdgesOfLanguagesTest {
         due("force(-1)", x.force(-1), 0);
         due("no clause again: vertex(0, 1)", x.vertex(0, 1), 0);
         due("no clause again: add(0)", x.add(0), 1);
+    }
+
+    private static void law(String text, int place) {
+        PeeledHash x = new PeeledHash();
+        due("law \"" + text + "\"", Checks.law(x, text), place == FINE ? 0 : -6);
+        due("fault() of law \"" + text + "\"", x.fault(), place);
+    }
+
+    /** A word of one language is a fault in the other; and so is one with a letter less or more. */
+    private static void words() {
+        CHECKS.says("Words: \"vertex\" | \"part\" | \"degree\" | \"key\" | \"seed\" | \"time\" | \"mood\".");
+        String[] ofLaws = {"vertex", "part", "degree", "key", "seed", "time", "mood"};
+        for (String word : ofLaws) {
+            law("ranks " + word, FINE);
+            law("bars if " + word + " = " + word, FINE);
+            law("ranks " + word + "z", 6);
+            law("ranks " + word.substring(0, word.length() - 1), 6);
+            boolean ofBoth = word.equals("time");
+            orders("add 5 + " + word, ofBoth ? FINE : word.equals("degree") ? 14 : 8);
+        }
+        CHECKS.says("Words: \"time\" | \"done\" | \"latest\" | \"keys\" | \"degree\" V | \"number\" K");
+        String[] ofOrders = {"time", "done", "latest", "keys", "degree 5", "number 5"};
+        for (String word : ofOrders) {
+            orders("add 5 + " + word, FINE);
+            orders("build if " + word + " = " + word, FINE);
+            orders("add 5 + z" + word, 8);
+            boolean ofBoth = word.equals("time");
+            law("ranks " + word, ofBoth ? FINE : word.equals("degree 5") ? 13 : 6);
+        }
+        String[] none = {"if", "or", "and", "not", "times", "ranks", "bars", "add", "take", "side", "build", "x"};
+        for (String word : none) {
+            law("ranks " + word, 6);
+            orders("add " + word, 4);
+        }
+        CHECKS.says("ORDERS: CLAUSE: (\"add\" SUM | \"take\" SUM | \"side\" SUM | \"seed\" SUM | \"build\") [\"times\" TIMES]"
+                + " [\"if\" TEST]. (a KEY; a KEY; a SIDE; a SEED; nothing.)");
+        String[] heads = {"add", "take", "side", "seed"};
+        for (String head : heads) {
+            orders(head + " 5 times 1 if 1=2", FINE);
+            orders(head, head.length());
+            orders(head + " times 1", head.length() + 1);
+            orders(head + " if 1=1", head.length() + 1);
+            law(head + " 5", 0);
+        }
+        orders("build", FINE);
+        orders("build 5", 6);
+        law("build", 0);
+        orders("ranks 5", 0);
+        orders("bars", 0);
+        orders("undo", 0);
     }
 
     private static void wordsOfLaws() {
