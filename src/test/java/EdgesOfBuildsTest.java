@@ -14,6 +14,7 @@ public final class EdgesOfBuildsTest {
         buildsThatCanNotBe();
         signsAndSteps();
         signsOfAll();
+        stepsOfAll();
         time();
         anyKeyByTheTable();
         ownVertices();
@@ -262,6 +263,48 @@ public final class EdgesOfBuildsTest {
                 due("it is the own vertex of " + key, x.found(key, 0), free);
             }
             due("all others are 3: table(3)", x.table(3), 7);
+        }
+    }
+
+    private static void stepsOfAll() {
+        CHECKS.says("the STEP of that is the one (0 and more, below the number of KEYS)");
+        PeeledHash x = atSide(5, 10, 20, 30, 40, 50, 60, 70);
+        x.build();
+        stepsAre(x, 7);
+        // A table that was built ahead leaves nothing in the next one.
+        x.take(10);
+        x.seed(200);
+        x.build();
+        stepsAre(x, 6);
+        x.add(999);
+        x.add(0);
+        x.build();
+        stepsAre(x, 8);
+        PeeledHash y = Checks.with(0, 1, 2, 3);
+        y.build();
+        due("found(4, 2)", y.found(4, 2), 0);
+        due("found(5, 2)", y.found(5, 2), 3);
+    }
+
+    /** The steps once more, by what is peeled; the places of strangers tell them. */
+    private static void stepsAre(PeeledHash x, int keys) {
+        due("table(2)", x.table(2), keys);
+        int[] steps = new int[15];
+        for (int i = keys - 1; i >= 0; i--) {
+            int key = x.peeled(i, 0);
+            int free = x.peeled(i, 1);
+            int lower = 0;
+            while (x.there(lower) < key) {
+                lower++;
+            }
+            for (int j = 0; j < 3; j++) {
+                lower -= x.key(key, 2 + j) == free ? 0 : steps[x.key(key, 2 + j)];
+            }
+            steps[free] = Math.floorMod(lower, keys);
+        }
+        for (int key = 0; key < 25; key++) {
+            due("found(" + key + ", 2)", x.found(key, 2),
+                    (steps[x.key(key, 2)] + steps[x.key(key, 3)] + steps[x.key(key, 4)]) % keys);
         }
     }
 

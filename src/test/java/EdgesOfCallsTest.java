@@ -21,6 +21,7 @@ public final class EdgesOfCallsTest {
         build();
         undo();
         undoEnds();
+        tablesComeBack();
         coreAndPeeled();
         good();
         foundAndTable();
@@ -432,6 +433,50 @@ public final class EdgesOfCallsTest {
         due("orders that can't be leave it: count(5)", w.count(5), 16);
         due("undo()", w.undo(), 0);
         due("key(16, 0)", w.key(16, 0), 0);
+        PeeledHash v = new PeeledHash();
+        Checks.orders(v, "add 1;add 2;add 2");
+        due("none of those that were gone back to is kept: count(5)", v.count(5), 0);
+        Checks.orders(v, "add 3");
+        due("count(5)", v.count(5), 1);
+        Checks.orders(v, "side 5;seed 6");
+        due("behind the one of earlier orders: count(5)", v.count(5), 3);
+        due("undo()", v.undo(), 3);
+        due("undo()", v.undo(), 2);
+        due("undo()", v.undo(), 0);
+        due("undo()", v.undo(), -3);
+        due("undo() that answers 0 is not refused: count(9)", v.count(9), 2);
+        due("count(7), count(8), count(10), count(11)", v.count(7) + v.count(8) + v.count(10) + v.count(11), 0);
+    }
+
+    /** All of a table is as it was: the keys by which twins are told, too. */
+    private static void tablesComeBack() {
+        CHECKS.says("(KEYS, SIDE, SEED, the TABLE, TIME are as they were)");
+        PeeledHash x = Checks.with(0, 1, 2, 3);
+        x.build();
+        x.image(0);
+        int[] before = new int[20];
+        for (int key = 0; key < 20; key++) {
+            before[key] = x.twin(key) * 1000 + x.found(key, 1) * 100 + x.found(key, 2);
+        }
+        due("number 3: twin(4)", x.twin(4), 3);
+        x.add(4);
+        x.add(5);
+        x.take(3);
+        x.side(9);
+        x.seed(33);
+        x.build();
+        due("it was there: twin(4)", x.twin(4), -1);
+        due("table(2)", x.table(2), 5);
+        due("undo()", x.undo(), 4);
+        for (int key = 0; key < 20; key++) {
+            due("undone: " + key, x.twin(key) * 1000 + x.found(key, 1) * 100 + x.found(key, 2), before[key]);
+        }
+        due("undo()", x.undo(), 3);
+        due("build()", x.build(), 0);
+        due("back(0)", x.back(0), 0);
+        for (int key = 0; key < 20; key++) {
+            due("back: " + key, x.twin(key) * 1000 + x.found(key, 1) * 100 + x.found(key, 2), before[key]);
+        }
     }
 
     private static void undoEnds() {

@@ -277,6 +277,14 @@ public final class EdgesOfLanguagesTest {
         PeeledHash z = Checks.with(0, 1, 2, 3);
         due("number without a table", Checks.orders(z, "add 9 if number 0 = 0-1 and number 999 = 0-1"), 1);
         due("number with one", Checks.orders(z, "take 9;build;add 9 if number 0 = 0 and number 3 = 3 and number 5 = 4"), 3);
+        // Two keys have vertex 2, key 3 has number 3; by then 1 was run, 4 are there, it is time 1, 0 was the latest.
+        PeeledHash u = Checks.with(0, 1, 2, 3);
+        String all = "keys*100+degree 2*10+number 3+done*500+time*0+latest*7";
+        due("all words in one sum", Checks.orders(u, "build;add " + all), 2);
+        due("key(923, 0)", u.key(923, 0), 1);
+        u.undo();
+        due("in another order", Checks.orders(u, "build times 2;add number 3+degree 2*10+number 2*100+keys+time*200+done"), 3);
+        due("key(3 + 20 + 200 + 4 + 600 + 2, 0)", u.key(829, 0), 1);
         PeeledHash w = new PeeledHash();
         w.terms(0, 998);
         due("time goes to 999", Checks.orders(w, "build;build if time = 999;build if time = 999;build if time = 998"), 3);

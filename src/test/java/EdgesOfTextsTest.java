@@ -5,6 +5,7 @@ public final class EdgesOfTextsTest {
 
     public static void main(String[] args) {
         tape();
+        oneBehindAnother();
         tokens();
         clauses();
         grammar();
@@ -86,6 +87,36 @@ public final class EdgesOfTextsTest {
         law("ranks " + "0".repeat(394), FINE);
         law("z".repeat(400), 0);
         law(" ".repeat(399) + "z", 399);
+        // Words that end where the tape does, a letter before they would be known.
+        String[] cut = {"bar", "rank", "b", "r"};
+        for (String word : cut) {
+            law(" ".repeat(400 - word.length()) + word, 400 - word.length());
+        }
+        law("ranks" + " ".repeat(390) + "verte", 395);
+        law("ranks" + " ".repeat(389) + "vertex", FINE);
+        law("ranks" + " ".repeat(392) + "key", FINE);
+    }
+
+    /** Each text is read anew, however long those ahead of it were and wherever they ended. */
+    private static void oneBehindAnother() {
+        CHECKS.says("The TAPE, which is empty then, becomes a LAW: its number.");
+        PeeledHash x = new PeeledHash();
+        x.image(0);
+        for (int i = 0; i < 9; i++) {
+            String ranks = "ranks " + i + "+" + Checks.repeated("1", 44, "+") + " if 1=1 and 2=2";
+            due("law no. " + i, Checks.law(x, ranks + " ".repeat(400 - ranks.length())), 0);
+            due("compare(0, 0) of law no. " + i, x.compare(0, 0), 44 + i);
+            due("a law with a fault at its end", Checks.law(x, ranks + " and"), -6);
+            due("fault()", x.fault(), ranks.length() + 4);
+            x.back(0);
+        }
+        for (int i = 0; i < 9; i++) {
+            String lookups = "add " + i + "+" + Checks.repeated("degree 0", 20, "+") + "+" + Checks.repeated("number 0", 20, "+");
+            // No key has vertex 0, and without a table each number is -1: all that is left is i.
+            due("orders no. " + i, Checks.orders(x, lookups + "+20"), 1);
+            due("there(0) behind orders no. " + i, x.there(0), i);
+            x.back(0);
+        }
     }
 
     private static void tokens() {
@@ -354,6 +385,23 @@ public final class EdgesOfTextsTest {
         String so = "1=1";
         String not = "1=2";
         String broken = "1/0=1";
+        String[] alike = {"1=2", "2<1", "1>2", "1<1", "1>1", "(1=2)"};
+        for (String one : alike) {
+            due("not " + one, barred("not " + one), 1);
+            due(one + " or so", barred(one + " or " + so), 1);
+            due(one + " and so", barred(one + " and " + so), 0);
+            due("so and " + one, barred(so + " and " + one), 0);
+            due("so or " + one, barred(so + " or " + one), 1);
+            due(one + " and broken", barred("not (" + one + " and " + broken + ")"), 1);
+            due(one + " or broken", barred("not (" + one + " or " + broken + ")"), 0);
+        }
+        String[] others = {"1=1", "1<2", "2>1", "(1=1)"};
+        for (String one : others) {
+            due("not " + one, barred("not " + one), 0);
+            due(one + " or broken", barred(one + " or " + broken), 1);
+            due(one + " and broken", barred("not (" + one + " and " + broken + ")"), 0);
+            due(one + " and so", barred(one + " and " + so), 1);
+        }
         due("so or broken", barred(so + " or " + broken), 1);
         due("not so or broken", barred("not (" + not + " or " + broken + ")"), 0);
         due("not so or broken", barred(not + " or " + broken), 0);

@@ -14,6 +14,7 @@ public final class EdgesOfYearsTest {
         rows();
         blanks();
         images();
+        seenOfImages();
         whatImagesLeaveOut();
         CHECKS.finish("EdgesOfYearsTest");
     }
@@ -189,6 +190,30 @@ public final class EdgesOfYearsTest {
         due("undo() of what came behind", x.undo(), 0);
         due("images stay: back(0)", x.back(0), 0);
         due("count(0)", x.count(0), 1);
+    }
+
+    /** 0: 0, 5, 10; 1: 1, 4, 11; 2: 2, 7, 11; 3: 2, 5, 8. */
+    private static void seenOfImages() {
+        PeeledHash x = Checks.with(0, 1, 2, 3);
+        x.image(1);
+        x.seen(2, 1);
+        x.seen(8, 0);
+        x.image(0);
+        due("canBe(-1)", x.canBe(-1), 1);
+        due("canBe(0)", x.canBe(0), 2);
+        x.forget();
+        x.seen(11, 0);
+        x.seen(0, 1);
+        due("canBe(0)", x.canBe(0), 0);
+        x.back(0);
+        due("count(3)", x.count(3), 2);
+        due("which vertices, and whether: canBe(-1)", x.canBe(-1), 1);
+        due("canBe(0)", x.canBe(0), 2);
+        x.back(1);
+        due("nothing was seen: count(3)", x.count(3), 0);
+        due("canBe(-1)", x.canBe(-1), 4);
+        due("seen(2, 1)", x.seen(2, 1), 1);
+        due("canBe(-1)", x.canBe(-1), 2);
     }
 
     private static void whatImagesLeaveOut() {
