@@ -28,7 +28,7 @@ final class Checks {
         sentence = words;
     }
 
-    private static String documentOnOneLine() {
+    static String documentOnOneLine() {
         try {
             return Files.exists(DOCUMENT) ? Files.readString(DOCUMENT).replaceAll("\\s+", " ") : "";
         } catch (IOException unreadable) {

@@ -1,4 +1,5 @@
 import java.math.BigInteger;
+import java.util.Arrays;
 
 /** The edges that Terms III of the document names: changes, peeling, builds, tables, and what is asked on paper. */
 public final class EdgesOfBuildsTest {
@@ -12,6 +13,7 @@ public final class EdgesOfBuildsTest {
         buildsWithoutKeys();
         buildsGoRound();
         buildsThatCanNotBe();
+        peeledByTheSeedThatIsGood();
         signsAndSteps();
         signsOfAll();
         stepsOfAll();
@@ -214,6 +216,42 @@ public final class EdgesOfBuildsTest {
         due("seven keys of six vertices", y.build(), -3);
     }
 
+    private static void peeledByTheSeedThatIsGood() {
+        CHECKS.says("is SEED; all are PEELED by it; the TABLE is that of SIDE, SEED, of all KEYS that are THERE: all SIGNS 3");
+        PeeledHash x = Checks.with(0, 1, 2, 3, 4, 5, 6, 7, 8, 9);
+        Checks.law(x, "ranks [vertex * 7 + seed * 3] % 11 + degree");
+        x.force(0);
+        due("build()", x.build(), 7);
+        int[] of = {4, 7, 10, 10};
+        for (int what = 0; what < of.length; what++) {
+            due("table(" + what + ")", x.table(what), of[what]);
+        }
+        due("count(2)", x.count(2), 7);
+        for (int i = 0; i < 10; i++) {
+            due("the free vertex of the " + i + "th that leaves by seed 7", x.found(x.peeled(i, 0), 0), x.peeled(i, 1));
+        }
+        // Keys 0 to 10 at side 5: seeds 18, 19, 20 leave a core, 21 leaves none.
+        int[] upwards = ownVerticesBy("ranks 0");
+        int[] downwards = ownVerticesBy("ranks 99 - vertex");
+        due("the two laws peel otherwise", Arrays.equals(upwards, downwards) ? 1 : 0, 0);
+        due("by the seed that is good", Arrays.equals(ownVerticesBy("ranks 99 - vertex if seed = 21"), downwards) ? 1 : 0, 1);
+        due("not by the one ahead", Arrays.equals(ownVerticesBy("ranks 99 - vertex if seed = 18"), upwards) ? 1 : 0, 1);
+        due("the time is that ahead", Arrays.equals(ownVerticesBy("ranks 99 - vertex if time = 0"), downwards) ? 1 : 0, 1);
+    }
+
+    private static int[] ownVerticesBy(String law) {
+        PeeledHash x = atSide(5, 0, 1, 2, 3, 4, 5, 6, 7, 8, 9, 10);
+        Checks.law(x, law);
+        x.force(0);
+        x.seed(18);
+        due("build()", x.build(), 3);
+        int[] own = new int[11];
+        for (int key = 0; key < 11; key++) {
+            own[key] = x.found(key, 0);
+        }
+        return own;
+    }
+
     private static void signsAndSteps() {
         CHECKS.says("all SIGNS 3, all STEPS 0 at first");
         // One key, 0: vertices 0, 5, 10; 0 is free, its sign with 3 + 3 is 0.
@@ -276,10 +314,12 @@ public final class EdgesOfBuildsTest {
         x.seed(200);
         x.build();
         stepsAre(x, 6);
-        x.add(999);
-        x.add(0);
-        x.build();
-        stepsAre(x, 8);
+        PeeledHash z = atSide(5, 20, 30, 40, 50, 60, 70);
+        z.build();
+        z.add(999);
+        z.add(0);
+        z.build();
+        stepsAre(z, 8);
         PeeledHash y = Checks.with(0, 1, 2, 3);
         y.build();
         due("found(4, 2)", y.found(4, 2), 0);

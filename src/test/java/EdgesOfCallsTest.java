@@ -747,7 +747,7 @@ public final class EdgesOfCallsTest {
         for (int what = 0; what < full.length; what++) {
             due("at the most: count(" + what + ")", most.count(what), full[what]);
         }
-        CHECKS.says("13 .. 15 TERMS 0 .. 2. NONE for others.");
+        CHECKS.says("12 the LAW in FORCE, 13 .. 15 TERMS 0 .. 2. NONE for others.");
         PeeledHash x = new PeeledHash();
         int[] wrong = {MIN, -1, 16, MAX};
         for (int what : wrong) {

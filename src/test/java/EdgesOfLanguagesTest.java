@@ -207,7 +207,15 @@ public final class EdgesOfLanguagesTest {
         orders("build times 2 * 2", 14);
         orders("build times 2 times 2", 14);
         orders("build if 1=1 times 2", 13);
-        CHECKS.says("each as often as TIMES tell (once without)");
+        CHECKS.says("Run CLAUSE by CLAUSE, each as often as TIMES tell (once without)");
+        due("one behind another", Checks.orders(new PeeledHash(), "add 5;take 5;add 5 times 1;side 5;seed 5;build"), 6);
+        due("the first of all goes first", Checks.orders(new PeeledHash(), "take 5;add 5"), -3);
+        PeeledHash rows = new PeeledHash();
+        due("the first as often as it is told, then the second", Checks.orders(rows, "add done times 3;add 10 + done times 2"), 5);
+        int[] keys = {0, 1, 2, 13, 14};
+        for (int i = 0; i < keys.length; i++) {
+            due("there(" + i + ")", rows.there(i), keys[i]);
+        }
         due("times 1", Checks.orders(new PeeledHash(), "build times 1"), 1);
         due("once without", Checks.orders(new PeeledHash(), "build"), 1);
         due("times 20", Checks.orders(new PeeledHash(), "build times 20"), 20);
@@ -334,12 +342,13 @@ public final class EdgesOfLanguagesTest {
         stops(x, "take 0-1", 0);
         stops(x, "side 2;side 1", 1);
         stops(x, "side 20;side 21", 1);
-        stops(x, "side 4", 0);
-        stops(x, "seed 255;seed 256", 1);
-        stops(x, "seed 0-1", 0);
-        stops(x, "seed 0", 0);
-        stops(x, "build times 20;build times 20;seed 9;side 2;add 10 + done % 10 times 9;build", 5);
-        stops(x, Checks.repeated("build", 11, ";") + ";take 9", 11);
+        PeeledHash u = Checks.with(0, 1, 2, 3);
+        stops(u, "side 4", 0);
+        stops(u, "seed 255;seed 256", 1);
+        stops(u, "seed 0-1", 0);
+        stops(u, "seed 0", 0);
+        stops(u, "build times 20;build times 20;seed 9;side 2;add 10 + done % 10 times 9;build", 5);
+        stops(u, Checks.repeated("build", 11, ";") + ";take 9", 11);
         PeeledHash y = new PeeledHash();
         due("30 of them", Checks.orders(y, "add keys times 20;add keys times 10"), 30);
         PeeledHash z = new PeeledHash();

@@ -115,7 +115,7 @@ public final class EdgesOfTermsTest {
     }
 
     private static void verticesGoRound() {
-        CHECKS.says("in PART j that of number j times SIDE and [[KEY times (j times 114, and 377)] and [SEED times (j times 50,"
+        CHECKS.says("A KEY has three by a SEED and a SIDE: in PART j that of number j times SIDE and [[KEY times (j times 114, and 377)] and [SEED times (j times 50,"
                 + " and 101)] and j times 5] modulo 1,009, modulo SIDE.");
         PeeledHash x = new PeeledHash();
         x.side(20);

@@ -110,12 +110,14 @@ public final class EdgesOfTextsTest {
             due("fault()", x.fault(), ranks.length() + 4);
             x.back(0);
         }
+        PeeledHash y = new PeeledHash();
+        y.image(0);
         for (int i = 0; i < 9; i++) {
             String lookups = "add " + i + "+" + Checks.repeated("degree 0", 20, "+") + "+" + Checks.repeated("number 0", 20, "+");
             // No key has vertex 0, and without a table each number is -1: all that is left is i.
-            due("orders no. " + i, Checks.orders(x, lookups + "+20"), 1);
-            due("there(0) behind orders no. " + i, x.there(0), i);
-            x.back(0);
+            due("orders no. " + i, Checks.orders(y, lookups + "+20"), 1);
+            due("there(0) behind orders no. " + i, y.there(0), i);
+            y.back(0);
         }
     }
 
@@ -170,7 +172,7 @@ public final class EdgesOfTextsTest {
     }
 
     private static void clauses() {
-        CHECKS.says("CLAUSE {\";\" CLAUSE}, 12 at most (FAULT at the 13th's first TOKEN).");
+        CHECKS.says("Of both languages: CLAUSE {\";\" CLAUSE}, 12 at most (FAULT at the 13th's first TOKEN).");
         law("bars", FINE);
         law(Checks.repeated("bars", 12, ";"), FINE);
         law(Checks.repeated("bars", 13, ";"), 60);
@@ -227,6 +229,17 @@ public final class EdgesOfTextsTest {
         law("ranks 1*/1", 8);
         law("ranks *1", 6);
         law("ranks 1 1", 8);
+        CHECKS.says("(TERMS of TEXTS are none of those above.)");
+        PeeledHash x = new PeeledHash();
+        due("law()", Checks.law(x, "ranks 2 + 3 * 4 - 20 / 7 % 2"), 0);
+        due("2, 12 and 0 are its terms", x.compare(0, 0), 14);
+        int[] terms = {0, 1, 0};
+        for (int what = 0; what < 3; what++) {
+            due("terms 0 to 2 are as they were: count(" + (13 + what) + ")", x.count(13 + what), terms[what]);
+        }
+        law("ranks slips", 6);
+        orders("add slips", 4);
+        orders("add mood", 4);
         CHECKS.says("\"[\" SUM \"]\" | a word, as told.");
         law("ranks []", 7);
         law("ranks [1", 8);

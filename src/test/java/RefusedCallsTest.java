@@ -330,6 +330,7 @@ public final class RefusedCallsTest {
     }
 
     private static void whatOnlyAsks() {
+        CHECKS.says("(On paper:) GOOD SEEDS: those of 0 .. 255");
         int[] numbers = {MIN, -2, -1, 0, 1, 4, 59, 60, 255, 256, 999, 1000, MAX};
         for (int n : numbers) {
             asks("all that asks with " + n, RefusedCallsTest::withTape, x -> {

@@ -145,7 +145,7 @@ public final class TableTest {
         x.side(5);
         x.build();
         int twins = 0;
-        for (int key = 0; key < 300; key++) {
+        for (int key = 0; key < 300; key += 2) {
             int twin = x.twin(key);
             if (twin == -1) {
                 due("twin(" + key + ") is none for a reason",
