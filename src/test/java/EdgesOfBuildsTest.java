@@ -555,12 +555,33 @@ public final class EdgesOfBuildsTest {
         due("without keys", new PeeledHash().canBe(-1), 0);
     }
 
+    private static void asked(int side, int vertex, int left, int... keys) {
+        PeeledHash x = atSide(side, keys);
+        due("ask(0) of " + Arrays.toString(keys) + " at side " + side, x.ask(0), vertex);
+        due("ask(1) of " + Arrays.toString(keys) + " at side " + side, x.ask(1), left);
+    }
+
     private static void asking() {
         CHECKS.says("To ASK for: the VERTEX by which of these the more of those that have it and those that have it not are as few as"
                 + " can be; the lowest.");
         PeeledHash x = Checks.with(0, 1, 2, 3);
         due("2, 5, 11 are alike: ask(0)", x.ask(0), 2);
         due("ask(1)", x.ask(1), 2);
+        // Sets of which no vertex below, in whichever part, does so well.
+        asked(4, 7, 2, 42, 117, 328, 392);
+        asked(4, 8, 2, 541, 552, 591, 592);
+        asked(4, 11, 3, 302, 351, 468, 698, 846, 870);
+        asked(20, 39, 3, 18, 373, 400, 630, 992);
+        asked(20, 40, 2, 74, 268, 484, 943);
+        asked(20, 59, 3, 32, 243, 245, 591, 925);
+        // Thirty keys that have the same three vertices at side 2: no vertex parts them.
+        asked(2, 0, 30, 5, 8, 9, 24, 25, 28, 44, 63, 79, 83, 98, 114, 118, 133, 134, 149, 153, 168, 169, 184, 188, 203, 204, 219,
+                223, 238, 239, 254, 258, 274);
+        // Another one in place of the last, with two vertices or one that the rest have not: the lowest that parts it.
+        asked(2, 0, 29, 5, 8, 9, 24, 25, 28, 44, 63, 79, 83, 98, 114, 118, 133, 134, 149, 153, 168, 169, 184, 188, 203, 204, 219,
+                223, 238, 239, 254, 258, 1);
+        asked(2, 4, 29, 5, 8, 9, 24, 25, 28, 44, 63, 79, 83, 98, 114, 118, 133, 134, 149, 153, 168, 169, 184, 188, 203, 204, 219,
+                223, 238, 239, 254, 258, 12);
         PeeledHash one = Checks.with(7);
         due("of one all are alike: ask(0)", one.ask(0), 0);
         due("ask(1)", one.ask(1), 1);

@@ -9,6 +9,7 @@ public final class EdgesOfTextsTest {
         tokens();
         clauses();
         grammar();
+        truths();
         numbers();
         pieces();
         brackets();
@@ -255,6 +256,53 @@ public final class EdgesOfTextsTest {
         law("add 1", 0);
         law("if 1=1", 0);
         law("ranks 1 times 1", 8);
+    }
+
+    /** Each form with all that a, b, c can be; by the rules "not" goes ahead of "and", "and" ahead of "or". */
+    private static void truths() {
+        CHECKS.says("TEST: BOTH {\"or\" BOTH}. BOTH: PLAIN {\"and\" PLAIN}. PLAIN: \"not\" PLAIN | \"(\" TEST \")\"");
+        for (int of = 0; of < 8; of++) {
+            boolean a = (of & 1) != 0;
+            boolean b = (of & 2) != 0;
+            boolean c = (of & 4) != 0;
+            truth(of, "a", a);
+            truth(of, "not a", !a);
+            truth(of, "not not a", a);
+            truth(of, "not not not a", !a);
+            truth(of, "not (a)", !a);
+            truth(of, "not (not a)", a);
+            truth(of, "not (not (not a))", !a);
+            truth(of, "not not (not a)", !a);
+            truth(of, "a and b", a && b);
+            truth(of, "a or b", a || b);
+            truth(of, "not a and b", !a && b);
+            truth(of, "not a or b", !a || b);
+            truth(of, "a and not b", a && !b);
+            truth(of, "a or not b", a || !b);
+            truth(of, "not (a and b)", !(a && b));
+            truth(of, "not (a or b)", !(a || b));
+            truth(of, "a and b or c", a && b || c);
+            truth(of, "a or b and c", a || b && c);
+            truth(of, "(a or b) and c", (a || b) && c);
+            truth(of, "a and (b or c)", a && (b || c));
+            truth(of, "not a and not b and not c", !a && !b && !c);
+            truth(of, "not a or not b or not c", !a || !b || !c);
+            truth(of, "not (a or b) and not c", !(a || b) && !c);
+            truth(of, "not (a and b) or not c", !(a && b) || !c);
+            truth(of, "not (not a and b) or not not c and a", !(!a && b) || c && a);
+            truth(of, "a or b or c", a || b || c);
+            truth(of, "a and b and c", a && b && c);
+            truth(of, "not (not (a or b) or c)", !(!(a || b) || c));
+        }
+    }
+
+    private static void truth(int of, String form, boolean so) {
+        String test = form.replaceAll("\\ba\\b", (of & 1) != 0 ? "1=1" : "1>1");
+        test = test.replaceAll("\\bb\\b", (of & 2) != 0 ? "1<2" : "2<1");
+        test = test.replaceAll("\\bc\\b", (of & 4) != 0 ? "2>1" : "1=2");
+        due("bars if " + test, barred(test), so ? 1 : 0);
+        due("ranks 7 if " + test, rank("ranks 7 if " + test), so ? 7 : 0);
+        due("build if " + test, Checks.orders(new PeeledHash(), "build if " + test), so ? 1 : 0);
     }
 
     private static void numbers() {

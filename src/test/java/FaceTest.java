@@ -43,13 +43,30 @@ public final class FaceTest {
         checks.due("public, without parameters",
                 Modifier.isPublic(constructors[0].getModifiers()) ? constructors[0].getParameterCount() : -1, 0);
         checks.due("final", Modifier.isFinal(PeeledHash.class.getModifiers()) ? 1 : 0, 1);
+        checks.due("classes inside", PeeledHash.class.getDeclaredClasses().length <= 11 ? 1 : 0, 1);
+        fields(checks, PeeledHash.class);
         for (Class<?> inner : PeeledHash.class.getDeclaredClasses()) {
+            fields(checks, inner);
+            checks.due(inner.getName() + " is not public", Modifier.isPublic(inner.getModifiers()) ? 1 : 0, 0);
             checks.due(inner.getName() + " is static", Modifier.isStatic(inner.getModifiers()) ? 1 : 0, 1);
             for (Method method : inner.getDeclaredMethods()) {
                 checks.due(inner.getName() + "." + method.getName(), names.contains(method.getName()) ? 1 : 0, 0);
             }
         }
         checks.finish("FaceTest");
+    }
+
+    /** Rules 5 and 11 of ../shared/LANGUAGE.md. */
+    private static void fields(Checks checks, Class<?> one) {
+        int fields = 0;
+        for (Field field : one.getDeclaredFields()) {
+            if (!Modifier.isStatic(field.getModifiers())) {
+                fields++;
+            } else {
+                checks.due(one.getName() + "." + field.getName() + " is final", Modifier.isFinal(field.getModifiers()) ? 1 : 0, 1);
+            }
+        }
+        checks.due("some twenty fields of " + one.getName() + ": " + fields, fields <= 20 ? 1 : 0, 1);
     }
 
     private static String parameters(Class<?>[] types) {
